@@ -29,6 +29,11 @@ public final class TransletDesk {
     private static final int TURNS = 1000;
 
     private static final int AXES = 11;
+    private static final int ALL_TOKENS = SLOTS * TOKENS;
+    private static final int ALL_SETS = ALL_TOKENS * NODES;
+    private static final int ALL_LISTS = AXES * NODES;
+    private static final int DEPTHS = MOST_WITHIN + 1;
+
     private static final int ITSELF = 0, CHILDREN = 1, BELOW = 3;
     private static final int SIBLINGS_BEHIND = 5, BEHIND = 7, IT_AND_BELOW = 9, IT_AND_ABOVE = 10;
 
@@ -45,7 +50,7 @@ public final class TransletDesk {
 
     /** Made anew of the fields above by layOut: the document order and the nodes along each axis. */
     private final int[] order = new int[NODES];
-    private final int[] along = new int[AXES * NODES];
+    private final int[] along = new int[ALL_LISTS];
     private int nodeCount;
 
     private final int[] draftKind = new int[TOKENS];
@@ -54,14 +59,14 @@ public final class TransletDesk {
     private int draftLength;
 
     /** The tokens of slot s begin at s * TOKENS; the end is the token behind all operands. */
-    private final int[] tokenKind = new int[SLOTS * TOKENS];
-    private final int[] tokenValue = new int[SLOTS * TOKENS];
-    private final int[] tokenEnd = new int[SLOTS * TOKENS];
+    private final int[] tokenKind = new int[ALL_TOKENS];
+    private final int[] tokenValue = new int[ALL_TOKENS];
+    private final int[] tokenEnd = new int[ALL_TOKENS];
     private final int[] slotLength = new int[SLOTS];
 
     /** What each set token gives at each node, and what each token gave as a number at last. */
-    private final int[] setAt = new int[SLOTS * TOKENS * NODES];
-    private final int[] amount = new int[SLOTS * TOKENS];
+    private final int[] setAt = new int[ALL_SETS];
+    private final int[] amount = new int[ALL_TOKENS];
     private final int[] reached = new int[NODES];
     private final int[] agenda = new int[TOKENS];
 
@@ -71,7 +76,7 @@ public final class TransletDesk {
     private final int[] outSlot = new int[TEMPLATES];
     private final int[] onSlot = new int[TEMPLATES];
 
-    private final int[] waiting = new int[MOST_WITHIN + 1];
+    private final int[] waiting = new int[DEPTHS];
     private final int[] result = new int[MOST_BEGUN];
     private int resultLength;
 
@@ -204,7 +209,7 @@ public final class TransletDesk {
     }
 
     private void layOut() {
-        for (int i = 0; i < AXES * NODES; i++) {
+        for (int i = 0; i < ALL_LISTS; i++) {
             along[i] = 0;
         }
         int node = ROOT_NODE;
@@ -622,7 +627,8 @@ public final class TransletDesk {
     private int planWork(int token) {
         int due = 0;
         int free = token;
-        for (int i = token; i < tokenEnd[token]; i++) {
+        int end = tokenEnd[token];
+        for (int i = token; i < end; i++) {
             if (i >= free && due < TOKENS) {
                 agenda[due] = i;
                 due++;

@@ -124,6 +124,10 @@ public final class ExpressionTest {
         Due.same("UNION with a number", Due.put(d, 0, Due.UNION, 0, h, 0, n, 0), WRONG);
         Due.same("UNION with a number", Due.put(d, 0, Due.UNION, 0, n, 0, h, 0), WRONG);
         Due.same("UNION with a truth", Due.put(d, 0, Due.UNION, 0, h, 0, 17, 0, h, 0), WRONG);
+        for (int i = 0; i < 40; i++) {
+            d.token(Due.NOT, 0);
+        }
+        Due.same("40 tokens without an end", d.expression(0), WRONG);
         Due.same("wrong inside a test", Due.put(d, 0, Due.STEP, 128, h, 0, 7, 0, n, 1), WRONG);
     }
 
@@ -341,6 +345,18 @@ public final class ExpressionTest {
         Due.same("a truth: 1", d.number(0, 5), 1);
         Due.put(d, 0, Due.NOT, 0, Due.NUM, 7);
         Due.same("a truth: 0", d.number(0, 5), 0);
+        Due.put(d, 0, Due.LESS, 0, Due.NUM, 2, Due.NUM, 3);
+        Due.same("LESS: 1", d.number(0, 5), 1);
+        Due.put(d, 0, Due.OR, 0, Due.NUM, 0, Due.NUM, 3);
+        Due.same("OR: 1", d.number(0, 5), 1);
+        Due.put(d, 0, Due.OR, 0, Due.NUM, 0, Due.NUM, 0);
+        Due.same("OR: 0", d.number(0, 5), 0);
+        d.change(0, 0, -4);
+        Due.put(d, 0, Due.ROOT, 0);
+        Due.same("the value of the root", d.number(0, 5), -4);
+        Due.put(d, 0, Due.SUM, 0, Due.UNION, 0, Due.ROOT, 0, 0, 0);
+        Due.same("a sum with the root", d.number(0, 5), 46);
+        Due.same("a sum of the root alone", d.number(0, 0), -4);
         d.change(6, 0, GREATEST);
         d.change(7, 0, GREATEST);
         Due.put(d, 0, Due.SUM, 0, Due.STEP, children, 0, 0);
@@ -385,6 +401,10 @@ public final class ExpressionTest {
         Due.no("60, 70 = 61", d.holds(0, 2));
         d.change(1, 1, 70);
         Due.yes("70 = 70", d.holds(0, 2));
+        Due.put(d, 0, Due.SAME, 0, Due.UNION, 0, Due.ROOT, 0, 0, 0, n, 50);
+        Due.yes("a union in front", d.holds(0, 5));
+        Due.put(d, 0, Due.SAME, 0, n, 50, Due.UNION, 0, Due.ROOT, 0, 0, 0);
+        Due.yes("a union behind", d.holds(0, 5));
         Due.put(d, 0, Due.SAME, 0, Due.COUNT, 0, Due.STEP, children, 0, 0, n, 2);
         Due.yes("two children", d.holds(0, 2));
         Due.no("three children", d.holds(0, 0));
@@ -401,6 +421,12 @@ public final class ExpressionTest {
         d.change(0, 0, 0);
         Due.put(d, 0, Due.ROOT, 0);
         Due.yes("a set whose value is 0", d.holds(0, 3));
+        Due.put(d, 0, Due.UNION, 0, Due.ROOT, 0, Due.ROOT, 0);
+        Due.yes("a union whose value is 0", d.holds(0, 3));
+        Due.put(d, 0, Due.SAME, 0, Due.POSITION, 0, Due.NUM, 1);
+        Due.yes("POSITION is 1", d.holds(0, 3));
+        Due.put(d, 0, Due.SAME, 0, Due.LAST, 0, Due.NUM, 1);
+        Due.yes("LAST is 1", d.holds(0, 3));
         int[] numbers = {0, 1, -1, LEAST};
         for (int a : numbers) {
             Due.put(d, 0, t, a);

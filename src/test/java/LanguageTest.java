@@ -115,7 +115,7 @@ public final class LanguageTest {
         Due.part("rule 4");
         long made = Pattern.compile("\\bnew\\b").matcher(text).results().count();
         long inFields = Pattern.compile(
-            "\\n    private final (\\w+)\\[\\] \\w+ = new \\1\\[[A-Z_ *+1]+\\];").matcher(text)
+            "\\n    private final (\\w+)\\[\\] \\w+ = new \\1\\[[A-Z_]+\\];").matcher(text)
             .results().count();
         Due.same("arrays made in fields' initialisers", inFields, made);
         Due.no("two dimensions", text.contains("[]["));

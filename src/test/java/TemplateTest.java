@@ -19,6 +19,7 @@ public final class TemplateTest {
         childrenWithoutTemplate();
         outAsNumber();
         hundredNodes();
+        justHundredNodes();
         twelveOthers();
         outputLimits();
         outputAfterRefusalAndStall();
@@ -256,7 +257,6 @@ public final class TemplateTest {
         Due.putOut(d, 2, 2, 2);
     }
 
-    /** A root with that many children, each handled once for each round. */
     private static TransletDesk flat(int children) {
         TransletDesk d = new TransletDesk();
         d.insert(0, 0, 0);
@@ -282,17 +282,16 @@ public final class TemplateTest {
         Due.same("output(63)", d.output(63), 6);
         Due.same("output(64)", d.output(64), 0);
         Due.same("128 nodes", d.transform(eighth), STALLS);
-        // The root, the children a with 8 nodes each, and single ones: just 100, then 101.
-        checkHundred();
     }
 
-    private static void checkHundred() {
+    /** The root handles 8 children with the name 1, each handles 10 more, and 11 or 12 others. */
+    private static void justHundredNodes() {
+        Due.part("promise 16, just 100 nodes");
         TransletDesk d = new TransletDesk();
         d.insert(0, 0, 0);
         for (int i = 0; i < 20; i++) {
             d.insert(0, 0, i < 8 ? 1 : 2);
         }
-        // Node with the name 1: handles 8 of the name 1 and 0 of others; first the root: 20.
         Due.put(d, 0, Due.HERE, 0);
         Due.put(d, 1, Due.NUM, 6);
         Due.put(d, 2, Due.STEP, Due.step(1, Due.ANY, 0), Due.HERE, 0);
@@ -301,11 +300,10 @@ public final class TemplateTest {
             Due.LESS, 0, Due.POSITION, 0, Due.NUM, 11);
         d.template(0, 0, 0, 1, 2);
         d.template(1, 3, 1, 1, 4);
-        // 1 + 20 + 8 * 10 = 101
-        Due.same("101 nodes", d.transform(0), STALLS);
+        Due.same("1 + 20 + 8 * 10 nodes", d.transform(0), STALLS);
         Due.same("nothing is kept", d.output(0), 0);
         d.remove(d.child(0, 0));
-        Due.same("100 nodes", d.transform(0), 100);
+        Due.same("1 + 19 + 8 * 10 nodes", d.transform(0), 100);
         Due.same("output(99)", d.output(99), 6);
         Due.same("output(100)", d.output(100), 0);
         d.template(0, 0, 0, -1, 2);

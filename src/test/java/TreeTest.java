@@ -121,6 +121,10 @@ public final class TreeTest {
         Due.children(desk, 1, 3);
         Due.put(desk, 0, Due.STEP, Due.step(9, Due.ANY, 0), Due.ROOT, 0);
         Due.set("what is left", desk, 0, 0, 0, 1, 3, 5);
+        Due.put(desk, 0, Due.STEP, Due.step(6, Due.ANY, 0), Due.HERE, 0);
+        Due.set("siblings before", desk, 0, 5, 1);
+        Due.put(desk, 0, Due.STEP, Due.step(8, Due.ANY, 0), Due.HERE, 0);
+        Due.set("all before", desk, 0, 5, 1, 3);
     }
 
     private static void removeAll() {
@@ -158,6 +162,10 @@ public final class TreeTest {
         Due.children(desk, 0, 2, 5, 3);
         Due.yes("below a leaf", desk.move(2, 5, 0));
         Due.set("all", desk, 0, 0, 0, 5, 2, 6, 1, 4, 7, 3);
+        Due.put(desk, 0, Due.STEP, Due.step(4, Due.ANY, 0), Due.HERE, 0);
+        Due.set("above, after the moves", desk, 0, 6, 0, 5, 2);
+        Due.put(desk, 0, Due.STEP, Due.step(7, Due.ANY, 0), Due.HERE, 0);
+        Due.set("behind, after the moves", desk, 0, 1, 7, 3);
         Due.same("remove(5)", desk.remove(5), 6);
     }
 
