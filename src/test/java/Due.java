@@ -6,6 +6,7 @@ final class Due {
     static final int ANY = 6;
 
     private static int wrong = 0;
+    private static int compared = 0;
     private static String part = "";
 
     private Due() {
@@ -15,7 +16,13 @@ final class Due {
         part = name;
     }
 
+    /** How many answers have been compared so far. */
+    static int compared() {
+        return compared;
+    }
+
     static void same(String call, long got, long want) {
+        compared++;
         if (got != want) {
             wrong++;
             System.out.println(part + ": " + call + " answered " + got + ", due is " + want);

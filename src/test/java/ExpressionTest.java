@@ -43,13 +43,13 @@ public final class ExpressionTest {
                 length--;
             }
             if (length == 39) {
-                desk.expression(0);
+                desk = new TransletDesk();
                 length = 0;
             }
         }
         Due.same("STEP least", desk.token(Due.STEP, LEAST), REFUSED);
         Due.same("STEP greatest", desk.token(Due.STEP, GREATEST), REFUSED);
-        desk.expression(0);
+        desk = new TransletDesk();
         length = 0;
         for (int kind = 0; kind <= 17; kind++) {
             length++;
@@ -164,13 +164,13 @@ public final class ExpressionTest {
     /** The numbers along each axis, in document order, from 2 and other nodes of the tree. */
     private static void axes() {
         Due.part("axes");
-        TransletDesk d = Due.tree();
         int[][] from2 = {{2}, {6, 7}, {0}, {6, 7}, {0}, {5}, {1}, {5}, {1, 4, 3}, {2, 6, 7}, {0, 2}};
         int[][] from0 = {{0}, {1, 2, 5}, {}, {1, 4, 3, 2, 6, 7, 5}, {}, {}, {}, {}, {},
             {0, 1, 4, 3, 2, 6, 7, 5}, {0}};
         int[][] from7 = {{7}, {}, {2}, {}, {0, 2}, {}, {6}, {5}, {1, 4, 3, 6}, {7}, {0, 2, 7}};
         int[][] from4 = {{4}, {}, {1}, {}, {0, 1}, {3}, {}, {3, 2, 6, 7, 5}, {}, {4}, {0, 1, 4}};
         for (int axis = 0; axis <= 10; axis++) {
+            TransletDesk d = Due.tree();
             Due.put(d, 0, Due.STEP, Due.step(axis, Due.ANY, 0), Due.HERE, 0);
             Due.set("axis " + axis, d, 0, 2, from2[axis]);
             Due.set("axis " + axis, d, 0, 0, from0[axis]);

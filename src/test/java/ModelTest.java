@@ -1,7 +1,8 @@
 /** Runs of calls on the class and on its model: all answers are the same. */
 public final class ModelTest {
     private static final int RUNS = 800;
-    private static final int ROUNDS = 60;
+    /** One more round takes at most 104 calls, and nothing is promised behind the 512th. */
+    private static final int MOST_CALLS = 400;
 
     private long state;
     private TransletDesk desk;
@@ -42,6 +43,7 @@ public final class ModelTest {
     private void run() {
         desk = new TransletDesk();
         model = new DeskModel();
+        int before = Due.compared();
         int first = pick(22);
         for (int i = 0; i < first; i++) {
             grow();
@@ -52,7 +54,7 @@ public final class ModelTest {
         for (int t = 0; t < 6; t++) {
             makeTemplate();
         }
-        for (int i = 0; i < ROUNDS; i++) {
+        while (Due.compared() - before < MOST_CALLS) {
             step();
         }
     }
