@@ -85,6 +85,43 @@ final class Due {
         same("output(" + numbers.length + ")", desk.output(numbers.length), 0);
     }
 
+    /** A root with that many children, in the order of their numbers, all with the name 0. */
+    static TransletDesk flat(int children) {
+        TransletDesk desk = new TransletDesk();
+        desk.insert(0, 0, 0);
+        for (int i = 0; i < children; i++) {
+            desk.insert(0, i, 0);
+        }
+        return desk;
+    }
+
+    /** That many nodes, each the only child of the one before it, all with the name 0. */
+    static TransletDesk chain(int nodes) {
+        TransletDesk desk = new TransletDesk();
+        for (int i = 0; i < nodes; i++) {
+            desk.insert(i - 1, 0, 0);
+        }
+        return desk;
+    }
+
+    /** The tree of the tests is as it was made; the slots 6 and 7 are used for it. */
+    static void treeAsMade(TransletDesk desk) {
+        int[][] children = {{1, 2, 5}, {4, 3}, {6, 7}, {}, {}, {}, {}, {}};
+        int[][] named = {{0, 3, 6}, {1, 4, 7}, {2, 5}, {}, {}, {}};
+        put(desk, 7, HERE, 0);
+        for (int i = 0; i < 8; i++) {
+            children(desk, i, children[i]);
+            same("the value of " + i, desk.number(7, i), 10 * i);
+        }
+        same("a ninth node", desk.child(8, 0), TransletDesk.REFUSED);
+        for (int name = 0; name < 6; name++) {
+            put(desk, 6, STEP, step(9, name, 0), ROOT, 0);
+            set("the nodes named " + name, desk, 6, 0, named[name]);
+        }
+        put(desk, 6, STEP, step(9, ANY, 0), ROOT, 0);
+        set("all nodes", desk, 6, 0, 0, 1, 4, 3, 2, 6, 7, 5);
+    }
+
     /**
      * The tree of the tests, in document order 0 1 4 3 2 6 7 5, so that it is not that of the
      * numbers: 0 has the children 1, 2, 5; 1 has 4, 3; 2 has 6, 7. Node n has the name n % 3 and
