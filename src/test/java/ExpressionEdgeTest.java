@@ -252,15 +252,14 @@ public final class ExpressionEdgeTest {
         TransletDesk d = Due.tree();
         Due.put(d, 0, HERE, 0);
         Due.put(d, 1, ROOT, 0);
-        Due.put(d, 2, STEP, ALL, HERE, 0);
         for (int node = 0; node < 8; node++) {
             Due.set("HERE", d, 0, node, node);
             Due.set("ROOT", d, 1, node, 0);
         }
-        Due.put(d, 3, STEP, Due.step(9, Due.ANY, 1), ROOT, 0, Due.SAME, 0, HERE, 0, NUM, 60);
-        Due.set("in a test HERE is the tested node", d, 3, 1, 6);
-        Due.put(d, 3, STEP, Due.step(3, Due.ANY, 1), ROOT, 0, Due.SAME, 0, ROOT, 0, NUM, 0);
-        Due.set("in a test ROOT is the root", d, 3, 1, 1, 4, 3, 2, 6, 7, 5);
+        Due.put(d, 2, STEP, Due.step(9, Due.ANY, 1), ROOT, 0, Due.SAME, 0, HERE, 0, NUM, 60);
+        Due.set("in a test HERE is the tested node", d, 2, 1, 6);
+        Due.put(d, 2, STEP, Due.step(3, Due.ANY, 1), ROOT, 0, Due.SAME, 0, ROOT, 0, NUM, 0);
+        Due.set("in a test ROOT is the root", d, 2, 1, 1, 4, 3, 2, 6, 7, 5);
     }
 
     private static void stepFromNone() {
