@@ -26,6 +26,7 @@ public final class ExpressionEdgeTest {
         oneToken();
         fortyTokens();
         fortyTokensInEachSlot();
+        fortyTokensOfOneSet();
         operandsOfEachKind();
         typesOfOperands();
         testsOfStep();
@@ -127,6 +128,29 @@ public final class ExpressionEdgeTest {
         }
         for (int slot = 0; slot < 8; slot++) {
             Due.same("slot " + slot, d.number(slot, 5), 19 * 100 * slot + 171 + 50);
+        }
+    }
+
+    /** Sets that reach to the last token of the last slot, worked out in each way. */
+    private static void fortyTokensOfOneSet() {
+        Due.part("Terms: 1 .. 40 tokens, 40 of them with a set that goes to the last");
+        int[] heads = {STEP, Due.COUNT, Due.NOT};
+        int[] types = {SET, NUMBER, TRUTH};
+        int[] numbers = {60, 2, 0};
+        for (int i = 0; i < heads.length; i++) {
+            TransletDesk d = Due.tree();
+            d.token(heads[i], Due.step(0, Due.ANY, 0));
+            for (int j = 0; j < 37; j++) {
+                d.token(STEP, Due.step(0, Due.ANY, 0));
+            }
+            d.token(STEP, CHILDREN);
+            Due.same("the last", d.token(HERE, 0), 40);
+            Due.same("expression(7)", d.expression(7), types[i]);
+            Due.same("size", d.size(7, 2), i == 0 ? 2 : REFUSED);
+            Due.same("at", d.at(7, 2, 1), i == 0 ? 7 : REFUSED);
+            Due.same("number", d.number(7, 2), numbers[i]);
+            Due.same("holds", d.holds(7, 2) ? 1 : 0, numbers[i] > 0 ? 1 : 0);
+            Due.same("holds of none", d.holds(7, 5) ? 1 : 0, i == 2 ? 1 : 0);
         }
     }
 
